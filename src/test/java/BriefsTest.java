@@ -41,6 +41,10 @@ public final class BriefsTest {
         good("must 1;add 2when 1;");
         good("must item0;");
         good("must item 0and item 11or 1;");
+        good("let az = 1; let za = az; must za;");
+        fault(STAND, "must 1 |{ 2;");
+        fault(STAND, "must 1 |` 2;");
+        fault(STAND, "must 1|: 2;");
         good("must 9999;");
         good("must 0000;");
         good("must(1)<(2);");
@@ -151,6 +155,12 @@ public final class BriefsTest {
         fault(UNTOLD, "must ((((|a))));");
         fault(MANY, "let a = 1; must ((((|a))));");
         good("let a = (((1))); must (((a)));");
+        good("add (((1))) when (((1)));");
+        good("bonus 1 when (((1)));");
+        fault(MANY, "add ((((|1)))) when 1;");
+        fault(MANY, "add 1 when ((((|1))));");
+        fault(MANY, "let a = ((((|1))));");
+        fault(MANY, "bonus 1 when ((((|1))));");
         fault(STAND, "must (((1|;");
     }
 
@@ -363,6 +373,14 @@ public final class BriefsTest {
         Checks.due("just 1,000", x.brief(0, 0), 0);
         Checks.feed(x, "must 1; " + " ".repeat(986) + "must 2;");
         Checks.due("the last sign is left out", x.brief(0, 0), 1 + 16 * 1000);
+        Checks.feed(x, "must " + "1 + ".repeat(248) + "  abcdef");
+        Checks.due("a full tape that ends in a word", x.brief(0, 0), 2 + 16 * 999);
+        Checks.feed(x, "must " + "1 + ".repeat(248) + "  12345");
+        Checks.due("a full tape that ends in a number", x.brief(0, 0), 1 + 16 * 1000);
+        Checks.feed(x, "1");
+        Checks.due("nothing is left of it", x.brief(0, 0), 1);
+        Checks.feed(x, "must " + "1+".repeat(496) + "1;");
+        Checks.due("a long sum", x.brief(0, 0), 0);
         Checks.feed(x, "add 1");
         Checks.due("another feed goes on", Checks.feed(x, "2 when 1;"), 14);
         Checks.due("one number", x.brief(0, 0), 0);

@@ -182,6 +182,9 @@ public final class PromisesTest {
         due("receipt -2", x.visit(0, 0, 0, 0, 1, 0, -2), NONE);
         due("receipt 1440", x.visit(0, 0, 0, 0, 1, 0, 1440), NONE);
         due("all least", x.visit(LEAST, LEAST, LEAST, LEAST, LEAST, LEAST, LEAST), NONE);
+        SecretBuyers y = town();
+        for (int i = 0; i < 12; i++) due("of a day from the first on " + i, y.visit(0, 0, 50, 10, 1, 2, NONE), i);
+        due("the buyer has 12", y.visit(1, 0, 50, 10, 1, 2, NONE), NONE);
         for (int i = 0; i < 12; i++) due("of a day " + i, x.visit(0, 0, 50, 10, 1, 2, NONE), 3 + i);
         due("the buyer has 12", x.visit(1, 0, 50, 10, 1, 2, NONE), NONE);
         due("another has not", x.visit(0, 1, 50, 10, 1, 2, NONE), 15);
@@ -355,8 +358,9 @@ public final class PromisesTest {
         due("fewest, day -1", x.fewest(0, -1), NONE);
         due("fewest, day 10000", x.fewest(0, 10000), NONE);
         due("fewest, day 9999", x.fewest(0, 9999), 0);
-        due("set, buyer 2", x.set(2, 10, 0), NONE);
-        due("set, day -1", x.set(0, -1, 0), NONE);
+        for (int wrong : new int[] {-1, 2, MOST, LEAST}) due("set, buyer " + wrong, x.set(wrong, 10, 0), NONE);
+        for (int wrong : new int[] {-1, 10000, MOST, LEAST}) due("set, day " + wrong, x.set(0, wrong, 0), NONE);
+        for (int wrong : new int[] {11, 12, 13, LEAST}) due("set, i " + wrong, x.set(1, 30, wrong), NONE);
         due("over all", x.count(11), 15);
     }
 
@@ -670,14 +674,22 @@ public final class PromisesTest {
         Checks.tell(x, "bonus 30 when item 0 and item 1 and item 7 and item 9;", 0, 13);
         due("no item alone", x.sway(0, 0), NONE);
         due("no item alone", x.sway(0, 1), NONE);
-        due("shop -1", x.sway(-1, 0), NONE);
-        due("shop 3", x.sway(3, 0), NONE);
+        for (int shop : new int[] {-1, 3, MOST, LEAST}) {
+            due("sway, shop " + shop, x.sway(shop, 0), NONE);
+            due("sway, shop " + shop, x.sway(shop, 1), NONE);
+        }
         due("what -1", x.sway(0, -1), NONE);
         due("what 2", x.sway(0, 2), NONE);
         Checks.tell(x, "bonus 7 when before < 1 and all = 1;", 1, 0);
         x.visit(2, 1, 20, 600, 10, 1, -1);
         due("to 0 by each item", x.sway(2, 0), 0);
         due("to 0 by each item", x.sway(2, 1), 7);
+        Checks.tell(x, "must not item 3; bonus 2 when item 4; bonus 1 when 1;", 1, 0);
+        due("by 1 alone, the must line first", x.sway(2, 0), 3);
+        due("by 1 alone", x.sway(2, 1), 1);
+        Checks.tell(x, "bonus 5 when all = 13; bonus 4 when all = 12;", 1, 0);
+        x.visit(2, 1, 21, 600, 10, 4095, -1);
+        due("no item beyond 11", x.sway(2, 1), 4);
     }
 
     private static void sums() {
