@@ -1,3 +1,9 @@
+import java.io.IOException;
+import java.io.UncheckedIOException;
+import java.nio.file.Files;
+import java.nio.file.Path;
+import java.util.ArrayList;
+import java.util.List;
 import java.util.NoSuchElementException;
 import java.util.function.IntSupplier;
 
@@ -5,14 +11,37 @@ import java.util.function.IntSupplier;
 final class Checks {
     private static int wrong = 0;
     private static int done = 0;
+    private static String sentence = "";
+    private static String document = null;
+    static final List<String> SENTENCES = new ArrayList<>();
 
     private Checks() { }
+
+    /** What is checked from here on is asked by these words, which must stand in the document. */
+    static void sentence(String words) {
+        sentence = "";
+        due("these words stand in the document: " + words, document().contains(words), true);
+        sentence = "'" + words + "': ";
+        SENTENCES.add(words);
+    }
+
+    /** DOC.md with each run of blanks and ends of lines as one blank. */
+    static String document() {
+        if (document == null) {
+            try {
+                document = Files.readString(Path.of("../shared/DOC.md")).replaceAll("\\s+", " ");
+            } catch (IOException e) {
+                throw new UncheckedIOException(e);
+            }
+        }
+        return document;
+    }
 
     static void due(String what, long got, long want) {
         done++;
         if (got != want) {
             wrong++;
-            System.out.println(what + " answered " + got + ", due is " + want);
+            System.out.println(sentence + what + " answered " + got + ", due is " + want);
         }
     }
 
@@ -31,7 +60,7 @@ final class Checks {
             got = "threw " + e;
         }
         wrong++;
-        System.out.println(what + " " + got + ", due is NoSuchElementException");
+        System.out.println(sentence + what + " " + got + ", due is NoSuchElementException");
     }
 
     static int feed(SecretBuyers x, String text) {
