@@ -882,34 +882,32 @@ public final class SecretBuyers {
             codeLength = 0;
             tape.rewind();
             for (int line = 0; line <= MOST_LINES && fault == 0 && tape.kind != END; line++) {
-                readLine(line);
+                int kind = tape.kind;
+                if (kind != LET && kind != ADD && kind != MUST && kind != BONUS) {
+                    fail(CANNOT_STAND);
+                } else if (line >= MOST_LINES) {
+                    fail(TOO_MANY);
+                } else if (kind == LET) {
+                    tape.step();
+                    readLet();
+                } else if (kind == BONUS) {
+                    tape.step();
+                    readBonus();
+                } else {
+                    tape.step();
+                    readAddOrMust(kind);
+                }
             }
             return fault;
         }
 
-        private void readLine(int line) {
-            int kind = tape.kind;
-            if (kind != LET && kind != ADD && kind != MUST && kind != BONUS) {
-                fail(CANNOT_STAND);
-                return;
-            }
-            if (line >= MOST_LINES) {
-                fail(TOO_MANY);
-                return;
-            }
-            tape.step();
-            if (kind == LET) {
-                readLet();
-            } else if (kind == BONUS) {
-                readBonus();
-            } else {
+        private void readAddOrMust(int kind) {
+            readLevel(TESTS, 0);
+            if (kind == ADD) {
+                pass(WHEN);
                 readLevel(TESTS, 0);
-                if (kind == ADD) {
-                    pass(WHEN);
-                    readLevel(TESTS, 0);
-                }
-                endLine(kind, 0);
             }
+            endLine(kind, 0);
         }
 
         private void readLet() {

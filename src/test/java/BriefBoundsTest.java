@@ -79,12 +79,12 @@ public final class BriefBoundsTest {
         due("it is not kept", x.count(8), 0);
     }
 
-    /** What an expression is for a visit on day 0 from 600 on for ten minutes, item 0 yes. */
+    /** What an expression is for a visit on day 0 from 600 on for ten minutes, item 0 yes; by one more, so that -1 shows. */
     private static void value(String expression, int want) {
         SecretBuyers x = Scenes.plain(1, 1, 0);
         Scenes.see(x, 0, 0, 0, 10);
-        due("brief of " + expression, Checks.tell(x, "add " + expression + " when 1;", 0, 0), 0);
-        due(expression, x.look(0, 0), want);
+        due("brief of " + expression, Checks.tell(x, "add 1 + (" + expression + ") when 1;", 0, 0), 0);
+        due(expression, x.look(0, 0) - 1, want);
     }
 
     private static void tapeFull() {
@@ -124,6 +124,10 @@ public final class BriefBoundsTest {
         }
         due("what is fed next begins anew", Checks.feed(x, "abc"), 3);
         due("and is read alone", x.brief(0, 0), STAND);
+        Checks.tell(x, " ".repeat(14) + "z9", 0, 0);
+        due("a word at its end ends there", Checks.tell(x, "let a=1;must a", 0, 0), STAND + 16 * 14);
+        Checks.tell(x, " ".repeat(14) + "99", 0, 0);
+        due("a number at its end ends there", Checks.tell(x, "let a=1;must 9", 0, 0), STAND + 16 * 14);
     }
 
     private static void longTokens() {
@@ -287,6 +291,10 @@ public final class BriefBoundsTest {
         good("let a = 1; must (((a)));");
         fault(MANY, "let a = 1; must ((((|a))));");
         good("must not not not 1 + not not not 1;");
+        for (String line : new String[] {"let a = E;", "add E when 1;", "add 1 when E;", "must E;", "bonus 1 when E;"}) {
+            good(line.replace("E", "(((1)))"));
+            fault(MANY, line.replace("E", "((((|1))))"));
+        }
         good("let a = (((1))); let b = (((a))); must (((b)));");
     }
 

@@ -202,6 +202,9 @@ public final class PartsBoundsTest {
         for (int i = 0; i < 3; i++) Scenes.seeAt(y, 0, 0, 0, 600);
         for (int i = 0; i < 3; i++) due("of three at once each may be " + i, y.look(i, 3), 3);
         due("so all count", y.count(6), 3);
+        SecretBuyers z = Scenes.plain(1, 1, 0);
+        for (int i = 0; i < 2; i++) Scenes.seeAt(z, 0, 0, 0, 600);
+        for (int i = 0; i < 2; i++) due("of two at once each may be " + i, z.look(i, 3), 3);
     }
 
     private static void theSet() {
@@ -414,6 +417,11 @@ public final class PartsBoundsTest {
         for (int s = 0; s < 3; s++) Scenes.see(y, s, 0, s, 50);
         y.terms(5, 20, 0);
         due("equal ones", y.order(0, 0, 9999, 0), 1);
+        SecretBuyers z = Scenes.timed(4, 1, 100);
+        z.terms(5, 20, 1);
+        for (int s = 0; s < 4; s++) Scenes.see(z, s, 0, s, 50 - 10 * s);
+        due("the greatest first", z.order(0, 0, 9999, 0), 4);
+        due("the greatest leads", z.order(0, 0, 9999, 1), 1);
     }
 
     private static void leads() {
@@ -663,6 +671,7 @@ public final class PartsBoundsTest {
         due("item 0", swayBy("bonus 5 when item 0;", 0), 0);
         due("item 11", swayBy("bonus 5 when item 11;", 0), 11);
         due("by a must line", swayBy("must not item 2; bonus 8 when 1;", 0), 2);
+        due("by a must line, to 0", swayBy("must not item 2; bonus 8 when 1;", 1), 8);
         due("by how many are yes", swayBy("bonus 8 when all = 2;", 0), 1);
     }
 

@@ -419,7 +419,9 @@ public final class PromiseBoundsTest {
     private static void doubt() {
         Checks.sentence("DOUBT of it; NONE: as there.");
         SecretBuyers x = scene();
-        due("asked first, worked first", x.doubt(1, 60, 60), 6000);
+        due("of one visit", x.doubt(1, 60, 60), 6000);
+        x.visit(2, 0, 70, 600, 10, 2, NONE);
+        due("asked first, worked first: it does not count", x.doubt(2, 0, 9999), NONE);
         x.terms(5, 20, 0);
         due("a doubt of 0 is one", x.doubt(1, 60, 60), 0);
         due("no visit", x.doubt(1, 61, 9999), NONE);

@@ -34,7 +34,7 @@ public final class RefusalsTest {
         int visits = isFull ? 120 : 40;
         for (int i = 0; i < visits; i++) {
             if (i == visits / 2) x.days(3);
-            x.visit(i % shops, i * 7 % buyers, 10 + i % 21, 400 + i * 37 % 500, 5 + i % 50, i * 5 % 64 | (i % 9 == 0 ? 0 : 1), NONE);
+            x.visit(i % shops, i * 7 % buyers, 10 + i % 5 * 4, 400 + i * 37 % 500, 5 + i % 50, i * 5 % 64 | (i % 9 == 0 ? 0 : 1), NONE);
         }
         for (int i = 0; i < (isFull ? 80 : 9); i++) x.appeal(i % 40, i % 12);
         x.terms(3, 15, 40);
