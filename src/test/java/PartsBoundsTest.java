@@ -10,6 +10,7 @@ public final class PartsBoundsTest {
         equalMinutes();
         falseAsKnown();
         fewest();
+        farBetween();
         sureAndMayBe();
         theSet();
         twelveADay();
@@ -179,6 +180,33 @@ public final class PartsBoundsTest {
         x.view(9);
         due("not known", x.fewest(1, 6), 0);
         due("over all, not known", x.count(11), 0);
+    }
+
+    private static void farBetween() {
+        Checks.sentence("Two VISITS of a BUYER on one DAY can't both be if the later one's MINUTE");
+        SecretBuyers x = new SecretBuyers();
+        x.shop(0, 0, 0, 0, 1439, true);
+        x.shop(0, 50, 0, 0, 1439, true);
+        x.buyer(0, 0);
+        for (int minute : new int[] {590, 600, 610}) Scenes.seeAt(x, 0, 0, 0, minute);
+        Scenes.seeAt(x, 1, 0, 0, 620);
+        Scenes.seeAt(x, 0, 0, 0, 1000);
+        int[] states = {0, 0, 0, 2, 0};
+        due("the far one stands in the way of three", x.fewest(0, 0), 1);
+        for (int i = 0; i < 5; i++) due("state " + i, x.look(i, 3), states[i]);
+        due("four count", x.count(6), 4);
+        x.terms(1, 20, 60);
+        due("by another pace, too", x.look(3, 3), 2);
+        Scenes.seeAt(x, 1, 0, 0, 670);
+        due("one that is in time by it", x.look(5, 3), 0);
+        due("and counts", x.count(6), 5);
+        x.terms(2, 20, 60);
+        due("but not by this one", x.look(5, 3), 2);
+        due("so it does not count", x.count(6), 4);
+        due("nor does its fee", x.sum(1, 0, 0, 0), 80);
+        due("nor is there a mean", x.doubt(1, 0, 0), NONE);
+        x.terms(1, 20, 60);
+        due("and by that one again", x.doubt(1, 0, 0), 6000);
     }
 
     private static void sureAndMayBe() {
@@ -422,6 +450,13 @@ public final class PartsBoundsTest {
         for (int s = 0; s < 4; s++) Scenes.see(z, s, 0, s, 50 - 10 * s);
         due("the greatest first", z.order(0, 0, 9999, 0), 4);
         due("the greatest leads", z.order(0, 0, 9999, 1), 1);
+        SecretBuyers w = Scenes.timed(4, 1, 100);
+        int[] minutes = {10, 31, 40, 200};
+        for (int s = 0; s < 4; s++) {
+            for (int i = 0; i < (s == 2 ? 1 : 3); i++) Scenes.see(w, s, 0, 10 * s + i, minutes[s]);
+        }
+        w.terms(5, 20, 30);
+        due("one of great doubt is behind none, but ahead of one", w.order(0, 0, 9999, 0), 3);
     }
 
     private static void leads() {
@@ -673,6 +708,10 @@ public final class PartsBoundsTest {
         due("by a must line", swayBy("must not item 2; bonus 8 when 1;", 0), 2);
         due("by a must line, to 0", swayBy("must not item 2; bonus 8 when 1;", 1), 8);
         due("by how many are yes", swayBy("bonus 8 when all = 2;", 0), 1);
+        SecretBuyers x = Scenes.plain(1, 1, 0);
+        x.visit(0, 0, 0, 600, 10, 4095, NONE);
+        Checks.tell(x, "bonus 8 when all < 13;", 0, 0);
+        due("there is no item 12", x.sway(0, 1), NONE);
     }
 
     private static int swayBy(String text, int what) {
