@@ -165,7 +165,7 @@ public final class SecretBuyers {
         if (!isWithin(pace, 1, 60) || !isWithin(fee, 0, 999) || !isWithin(spread, 0, 1000)) {
             return false;
         }
-        book.pace = pace;
+        book.walkAt(pace);
         this.fee = fee;
         this.spread = spread;
         return true;
@@ -617,7 +617,8 @@ public final class SecretBuyers {
         int pace = 5;
         int restDays = 30;
         int reach = 60;
-        // Grows whenever what was worked out from visits, appeals and briefs may be out of date.
+        // Grows whenever what was worked out from visits, appeals, briefs and the pace may be out of date. It never
+        // comes back to what it was, as a pace or a view may, with other things worked out in between.
         int edition;
 
         boolean hasShop(int shop) {
@@ -657,6 +658,11 @@ public final class SecretBuyers {
             for (int i = 0; i < appealCount; i++) {
                 turnIfSeen(i);
             }
+            edition++;
+        }
+
+        void walkAt(int toldPace) {
+            pace = toldPace;
             edition++;
         }
 
@@ -1195,18 +1201,16 @@ public final class SecretBuyers {
         private final boolean[] isOut = new boolean[MOST_A_DAY];
         private int size;
         private int edition;
-        private int pace;
 
         Truth(Book book) {
             this.book = book;
         }
 
         void refresh() {
-            if (edition == book.edition && pace == book.pace) {
+            if (edition == book.edition) {
                 return;
             }
             edition = book.edition;
-            pace = book.pace;
             judgeAlone();
             fewestOfAll = 0;
             for (int i = 0; i < book.visitCount; i++) {
@@ -1370,7 +1374,6 @@ public final class SecretBuyers {
         private final int[] rows = new int[MOST_SHOPS];
         private int rankedCount;
         private int edition;
-        private int pace;
 
         Means(Book book, Truth truth, Scorer scorer) {
             this.book = book;
@@ -1379,11 +1382,10 @@ public final class SecretBuyers {
         }
 
         void refresh() {
-            if (edition == book.edition && pace == book.pace) {
+            if (edition == book.edition) {
                 return;
             }
             edition = book.edition;
-            pace = book.pace;
             truth.refresh();
             scorer.refresh();
             Arrays.fill(leanSum, 0);

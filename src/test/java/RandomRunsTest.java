@@ -233,13 +233,33 @@ public final class RandomRunsTest {
     }
 
     private void changeTerms() {
-        switch (random.nextInt(5)) {
+        switch (random.nextInt(6)) {
             case 0: call("days", random.nextInt(3) == 0 ? upTo(1001) : upTo(Math.min(20, dayRoom))); break;
             case 1: call("view", random.nextInt(3) == 0 ? upTo(oracle.now + 1) : toldDay()); call("count", 5); break;
             case 2: call("view", oracle.now); break;
+            case 5: thereAndBack(); break;
             case 3: call("terms", random.nextInt(3) == 0 ? among(1, 60) : among(1, 6), among(0, 999), random.nextInt(3) == 0 ? among(0, 1000) : among(0, 30)); break;
             default: call("rest", random.nextInt(2) == 0 ? among(0, 400) : among(0, 9), random.nextInt(3) == 0 ? among(0, 198) : 198); break;
         }
+    }
+
+    /** The pace or the view is another one for a while and then as before, each time with questions. */
+    private void thereAndBack() {
+        boolean isPace = random.nextInt(3) > 0;
+        int first = isPace ? oracle.pace : oracle.seen();
+        for (int i = 0; i < 3; i++) {
+            int other = isPace ? among(1, random.nextBoolean() ? 60 : 6) : toldDay();
+            int kind = random.nextInt(3);
+            askFor(kind);
+            if (isPace) call("terms", other, oracle.fee, oracle.spread); else call("view", other);
+            askFor(random.nextInt(3));
+            if (isPace) call("terms", first, oracle.fee, oracle.spread); else call("view", first);
+            askFor(kind);
+        }
+    }
+
+    private void askFor(int kind) {
+        if (kind == 0) askScores(); else if (kind == 1) askTruth(); else askMeans();
     }
 
     // ---- briefs
